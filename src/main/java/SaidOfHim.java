@@ -453,7 +453,9 @@ public final class SaidOfHim {
         private final int[] odds = new int[8];
         /** Place 2 d and r: the odds by THE WAY of the RULE, picked once since a walk asks for them at each STEP. */
         private final int[] own = new int[4];
-        int way, keep, cost, worth;
+        int way, cost, worth;
+        /** How often of a hundred who means to help does so. */
+        int keep;
         private int fade, fresh;
 
         void live(Village v, int rule, int eye) {
