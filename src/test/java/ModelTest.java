@@ -8,9 +8,9 @@ public final class ModelTest {
         "good", "bad", ";", ";", " ", " ", "5", "51", "99", "100", "007", "1", "0", "x", "A", "\t"};
 
     public static void main(String[] args) {
-        for (int n = 0; n < 400; n++) mixedRun();
+        for (int n = 0; n < 800; n++) mixedRun();
         for (int n = 0; n < 3000; n++) textRun();
-        for (int n = 0; n < 60; n++) viewRun();
+        for (int n = 0; n < 90; n++) viewRun();
         for (int n = 0; n < 24; n++) survey(n);
         CHECK.end();
     }
@@ -97,7 +97,8 @@ public final class ModelTest {
     private static void mixedRun() {
         SaidOfHim x = new SaidOfHim();
         Model m = new Model();
-        for (int n = 0; n < 12; n++) {
+        // so few that an object is hardly asked more than its 512 calls
+        for (int n = 0; n < 6; n++) {
             tell(x, m, goodText());
             for (int k = 0; k < 20; k++) ask(x, m);
         }
@@ -136,7 +137,7 @@ public final class ModelTest {
     private static void viewRun() {
         SaidOfHim x = new SaidOfHim();
         Model m = new Model();
-        for (int n = 0; n < 450; n++) {
+        for (int n = 0; n < 300; n++) {
             int a = near(5);
             int b = near(5);
             int set = near(63);

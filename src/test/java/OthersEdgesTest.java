@@ -17,6 +17,7 @@ public final class OthersEdgesTest {
         gainBounds();
         gainAlike();
         gainByAHair();
+        gainByGreatNumbers();
         holdsBounds();
         holdsTheFirstWay();
         holdsIfNoneGains();
@@ -24,6 +25,7 @@ public final class OthersEdgesTest {
         allAtLeast();
         bestBounds();
         bestOfLikeOnes();
+        bestHangsOnAll();
         bestThatBears();
         plainFromNoneToAll();
         bearsBounds();
@@ -32,6 +34,7 @@ public final class OthersEdgesTest {
         turnedTwice();
         kindsOfNone();
         kindsOfSameOnes();
+        holdingGoesWithTheVillage();
         CHECK.end();
     }
 
@@ -174,6 +177,22 @@ public final class OthersEdgesTest {
         CHECK.due("less", Check.village("cost 86;worth 29;hand 28;eye 24;").gain(536, 2, 1), -1);
     }
 
+    private static void gainByGreatNumbers() {
+        CHECK.about("Section 4: both fractions crossed go beyond 64 bits");
+        // by turns GOOD and BAD, so that both are of 2 times 10 to the 7; crossed: WORTH times 4 times 10 to the 17
+        for (int worth = 1; worth <= 99; worth++) {
+            SaidOfHim x = Check.village("cost 1;worth " + worth + ";hand 0;eye 0;");
+            CHECK.due("more with " + worth, x.gain(FLIP + 15, 0, 500), 1);
+            CHECK.due("less with " + worth, x.gain(FLIP, 15, 500), -1);
+            CHECK.due("alike with " + worth, x.gain(FLIP + 15, 15, 500), 0);
+        }
+        for (int cost = 1; cost <= 99; cost++) {
+            SaidOfHim x = Check.village("worth 99;hand 0;eye 0;cost " + cost + ";");
+            CHECK.due("more at " + cost, x.gain(FLIP + 15, 7, 500), 1);
+            CHECK.due("less at " + cost, x.gain(FLIP, 1, 500), -1);
+        }
+    }
+
     // ---- holds
 
     private static void holdsBounds() {
@@ -299,6 +318,16 @@ public final class OthersEdgesTest {
         x = faultless();
         CHECK.due("17 and 3349 are HELPED alike", aid(x, 17), aid(x, 3349));
         CHECK.due("most HELPED", x.best(0), 17);
+    }
+
+    private static void bestHangsOnAll() {
+        CHECK.about("16: the one that is least by PLAIN, if that is 5");
+        SaidOfHim x = Check.village("cost 8;worth 25;hand 8;eye 2;fade 16 new 0;");
+        x.least(855392);
+        CHECK.due("two", x.all(NONE), 2);
+        CHECK.due("PLAIN", x.plain(1309), 5);
+        CHECK.due("PLAIN", x.plain(x.all(1)), 5);
+        CHECK.due("the first", x.best(1), 1309);
     }
 
     private static void bestThatBears() {
@@ -470,5 +499,33 @@ public final class OthersEdgesTest {
         CHECK.due("own twins", kindsByHand("hand 0;eye 0;fade 1;", 0)[1], 2);
         CHECK.about("20: one whose TURNED about is not HOLDING is one");
         CHECK.due("without a twin", kindsByHand("hand 0;eye 0;fade 1;", 0)[2], 114);
+    }
+
+    private static void holding(String when, SaidOfHim x, int... due) {
+        CHECK.due(when + " all(NONE)", x.all(NONE), due[0]);
+        CHECK.due(when + " all(0)", x.all(0), due[1]);
+        CHECK.due(when + " kinds()", x.kinds(), due[2]);
+        for (int what = 0; what < 3; what++) CHECK.due(when + " best(" + what + ")", x.best(what), due[3 + what]);
+    }
+
+    private static void holdingGoesWithTheVillage() {
+        CHECK.about("15, 16, 20: of THE VILLAGE as it is told now");
+        SaidOfHim x = new SaidOfHim();
+        int[] first = {118, 17, 63, 1309, 277, 1309};
+        holding("at first", x, first);
+        Check.tell(x, "hand 0;eye 0;");
+        holding("without errors", x, 442, 17, 306, 17, 2732, 3349);
+        Check.tell(x, "hand 0;eye 51;");
+        holding("behind a FAULT", x, 442, 17, 306, 17, 2732, 3349);
+        Check.tell(x, "worth 0;");
+        holding("none", x, 0, NONE, 0, NONE, NONE, NONE);
+        x.read();
+        holding("as at first", x, first);
+        CHECK.about("15, 16, 20: calls in between that try other EYES and RULES change nothing");
+        x.bears(0);
+        x.holds(4095);
+        x.other(17, 3, 4, 2);
+        x.from(80, 0, 1);
+        holding("as at first", x, first);
     }
 }

@@ -90,8 +90,8 @@ public final class OthersTest {
         CHECK.due("holds", x.holds(3002), 1);
         int seen = 0;
         for (int rule = 0; rule < 4096; rule += 5) {
-            int due = holdsByHand(x, rule);
-            CHECK.due("holds(" + rule + ")", x.holds(rule), due);
+            int due = holdsByHand(new SaidOfHim(), rule);
+            CHECK.due("holds(" + rule + ")", new SaidOfHim().holds(rule), due);
             if (due < -1) seen |= 1 << (-2 - due);
         }
         CHECK.holds("several WAYS were the first to gain", Integer.bitCount(seen) > 3);
@@ -113,7 +113,8 @@ public final class OthersTest {
         CHECK.due("all", x.all(NONE), 118);
         int i = 0;
         for (int rule = 0; rule < 4096; rule++) {
-            if (x.holds(rule) == 1 && aid(x, rule) > 0) CHECK.due("all(" + i + ")", x.all(i++), rule);
+            SaidOfHim y = new SaidOfHim();
+            if (y.holds(rule) == 1 && aid(y, rule) > 0) CHECK.due("all(" + i + ")", x.all(i++), rule);
         }
         CHECK.due("all of them", i, 118);
         CHECK.due("behind the last", x.all(118), NONE);
@@ -135,31 +136,54 @@ public final class OthersTest {
         CHECK.due("most helped", x.best(0), 1309);
         CHECK.due("plainest", x.best(1), 277);
         CHECK.due("bears most", x.best(2), 1309);
-        byHand(x);
+        byHand("");
         x.least(aid(x, 1309));
         for (int what = 0; what < 3; what++) CHECK.due("none", x.best(what), NONE);
         x.least(aid(x, 1309) - 1);
         for (int what = 0; what < 3; what++) CHECK.holds("one", x.best(what) >= 0);
-        byHand(Check.village("cost 2;worth 5;hand 0;eye 0;"));
-        byHand(Check.village("cost 1;worth 2;hand 10;eye 0;fade 5;"));
-        byHand(Check.village("cost 0;worth 0;eye 7;"));
+        byHand("cost 2;worth 5;hand 0;eye 0;");
+        byHand("cost 1;worth 2;hand 10;eye 0;fade 5;");
+        byHand("cost 0;worth 0;eye 7;");
         for (int what : new int[] {-1, 3, Integer.MIN_VALUE, Integer.MAX_VALUE}) CHECK.due("best", x.best(what), OUTSIDE);
     }
 
-    private static void byHand(SaidOfHim x) {
+    /** The HOLDING RULES, with a new object for every few calls: one answers 512 and no more. */
+    private static int[] holding(String text) {
+        SaidOfHim x = Check.village(text);
+        int[] rules = new int[x.all(NONE)];
+        for (int i = 0; i < rules.length; i++) {
+            if (i % 400 == 399) x = Check.village(text);
+            rules[i] = x.all(i);
+        }
+        return rules;
+    }
+
+    private static void byHand(String text) {
         int most = NONE;
         int plain = NONE;
         int firm = NONE;
-        int count = x.all(NONE);
-        for (int i = 0; i < count; i++) {
-            int rule = x.all(i);
-            if (most == NONE || aid(x, rule) > aid(x, most)) most = rule;
-            if (plain == NONE || x.plain(rule) < x.plain(plain)) plain = rule;
+        int mostAid = NONE;
+        int fewest = 6;
+        int firmest = -2;
+        int[] rules = holding(text);
+        for (int rule : rules) {
+            SaidOfHim x = Check.village(text);
+            if (aid(x, rule) > mostAid) {
+                most = rule;
+                mostAid = aid(x, rule);
+            }
+            if (x.plain(rule) < fewest) {
+                plain = rule;
+                fewest = x.plain(rule);
+            }
         }
-        for (int i = 0; i < count; i++) {
-            int rule = x.all(i);
-            if (aid(x, rule) == aid(x, most) && (firm == NONE || x.bears(rule) > x.bears(firm))) firm = rule;
+        for (int rule : rules) {
+            SaidOfHim x = Check.village(text);
+            if (aid(x, rule) != mostAid || x.bears(rule) <= firmest) continue;
+            firm = rule;
+            firmest = x.bears(rule);
         }
+        SaidOfHim x = Check.village(text);
         CHECK.due("best(0)", x.best(0), most);
         CHECK.due("best(1)", x.best(1), plain);
         CHECK.due("best(2)", x.best(2), firm);
@@ -216,23 +240,24 @@ public final class OthersTest {
         CHECK.due("one bit of the NAMING", x.turned(16 * 1), 16 * (255 - 64));
         CHECK.due("one bit of the NAMING", x.turned(16 * 2), 16 * (255 - 128));
         CHECK.due("one bit of the NAMING", x.turned(16 * 4), 16 * (255 - 16));
-        for (int rule = 0; rule < 4096; rule += 13) CHECK.due("twice", x.turned(x.turned(rule)), rule);
+        for (int rule = 0; rule < 4096; rule += 17) CHECK.due("twice", x.turned(x.turned(rule)), rule);
     }
 
     private static void kinds() {
         for (String text : new String[] {"", "hand 0;eye 0;", "fade 10 new 0;", "fade 10;worth 9;", "cost 0;"}) {
-            SaidOfHim x = Check.village(text);
+            int[] rules = holding(text);
             for (int least : new int[] {0, 300000, 900000}) {
-                x.least(least);
                 boolean[] named = new boolean[4096];
                 int kinds = 0;
-                int count = Math.min(x.all(NONE), 4096);
-                for (int i = 0; i < count; i++) {
-                    int rule = x.all(i);
+                for (int rule : rules) {
+                    SaidOfHim x = Check.village(text);
+                    if (aid(x, rule) <= least) continue;
                     if (!named[rule]) kinds++;
                     named[rule] = true;
                     named[x.turned(rule)] = true;
                 }
+                SaidOfHim x = Check.village(text);
+                x.least(least);
                 CHECK.due("kinds '" + text + "' " + least, x.kinds(), kinds);
             }
         }

@@ -75,6 +75,10 @@ public final class SharesEdgesTest {
         // helps 67: 67 * 83 + 33 * 17 = 6122 of 10 to the 4
         CHECK.due("612.2", x.step(16 * 0xaa + 15, 400), 612);
         CHECK.due("(1000 - 612.2)", x.step(16 * 0x55 + 15, 400), 387);
+        // G is 5099999996
+        CHECK.due("509.9999996", Check.village("hand 2;eye 49;").step(3064, 1), 509);
+        // G is 5019999900
+        CHECK.due("501.99999", Check.village("hand 2;eye 25;").step(468, 501), 501);
     }
 
     private static void stepFades() {

@@ -359,6 +359,7 @@ public final class TextEdgesTest {
             blanksEverywhere();
             oneBlankLess();
             clauseWordsAtWrongPlaces();
+            oneLetterAmiss();
             toldTwice();
             firstByte();
             leastOfThese();
@@ -444,6 +445,26 @@ public final class TextEdgesTest {
             faulty("way help help help;", 1, 18);
             faulty("naming;", 1, 6);
             faulty("naming bad bad bad bad bad bad bad;", 1, 34);
+        }
+
+        private static void oneLetterAmiss() {
+            CHECK.about("FAULT 1: a word that is another one in but one letter");
+            for (int at = 0; at < TIGHT.length(); at++) {
+                char c = TIGHT.charAt(at);
+                if (!letter(c)) continue;
+                for (char other : new char[] {'q', (char) (c == 'a' ? 'b' : c - 1), (char) (c == 'z' ? 'y' : c + 1)}) {
+                    String text = TIGHT.substring(0, at) + other + TIGHT.substring(at + 1);
+                    faulty(text, 1, wordStart(TIGHT, at));
+                }
+            }
+            CHECK.about("Section 2: letters a .. z: none in capitals");
+            for (int at = 0; at < TIGHT.length(); at++) {
+                char c = TIGHT.charAt(at);
+                if (!letter(c)) continue;
+                String text = TIGHT.substring(0, at) + (char) (c - 32) + TIGHT.substring(at + 1);
+                // the letters ahead of it are a word by themselves, and none that can stand there
+                faulty(text, 1, wordStart(TIGHT, at));
+            }
         }
 
         private static void toldTwice() {
