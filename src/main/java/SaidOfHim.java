@@ -528,7 +528,10 @@ public final class SaidOfHim {
     private static final class Another {
         /** It is GOOD good of times times. */
         long good, times;
-        /** HAS, times 10 to the 5 / (100 less HAND): alike for every WAY in a village; as a whole and a rest of times. */
+        /**
+         * HAS, times 10 to the 5 / (100 less HAND), which is alike for every WAY in a village; as a whole and a rest of
+         * times.
+         */
         long whole, part;
         private long has;
 

@@ -19,9 +19,11 @@ public final class FaceTest {
         "int plain(int)", "int bears(int)", "int turned(int)", "int kinds()",
         "int view(int,int)", "int call(int,int,int)", "int meet(int,int,int)", "int kin(int,int)", "int talk(int,int)",
         "int agreed(int)", "int forget()"};
+    private static final Set<String> NAMES = new TreeSet<>();
     private static final int[] ODD = {Integer.MIN_VALUE, -4096, -2, -1, 0, 1, 5, 6, 15, 63, 64, 120, 1000, 1001, 4095, 4096, Integer.MAX_VALUE};
 
     public static void main(String[] args) throws Exception {
+        for (String s : FACE) NAMES.add(s.replaceAll(".* |\\(.*", ""));
         face();
         constants();
         classesInside();
@@ -33,15 +35,13 @@ public final class FaceTest {
     private static void face() {
         CHECK.holds("public and final", Modifier.isPublic(SaidOfHim.class.getModifiers()) && Modifier.isFinal(SaidOfHim.class.getModifiers()));
         Set<String> due = new TreeSet<>(Arrays.asList(FACE));
-        Set<String> names = new TreeSet<>();
-        for (String s : FACE) names.add(s.replaceAll(".* |\\(.*", ""));
         for (Method m : SaidOfHim.class.getDeclaredMethods()) {
             if (m.isSynthetic()) continue;
             StringBuilder s = new StringBuilder(m.getReturnType() + " " + m.getName() + "(");
             for (Class<?> c : m.getParameterTypes()) s.append(s.charAt(s.length() - 1) == '(' ? "" : ",").append(c);
             s.append(')');
             if (Modifier.isPublic(m.getModifiers())) CHECK.holds("in the face: " + s, due.remove(s.toString()));
-            else CHECK.holds("private, and no name of the face: " + s, Modifier.isPrivate(m.getModifiers()) && !names.contains(m.getName()));
+            else CHECK.holds("private, and no name of the face: " + s, Modifier.isPrivate(m.getModifiers()) && !NAMES.contains(m.getName()));
             CHECK.holds("at most seven parameters", m.getParameterCount() <= 7);
         }
         CHECK.due("missing " + due, due.size(), 0);
@@ -71,7 +71,10 @@ public final class FaceTest {
             int fields = 0;
             for (Field f : c.getDeclaredFields()) if (!Modifier.isStatic(f.getModifiers())) fields++;
             CHECK.holds("at most twenty fields", fields <= 20);
-            for (Method m : c.getDeclaredMethods()) CHECK.holds("at most seven parameters", m.getParameterCount() <= 7);
+            for (Method m : c.getDeclaredMethods()) {
+                CHECK.holds("at most seven parameters", m.getParameterCount() <= 7);
+                CHECK.holds("no name of the face: " + m, !NAMES.contains(m.getName()));
+            }
         }
     }
 
