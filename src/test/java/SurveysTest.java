@@ -1,6 +1,6 @@
 /**
- * all, kinds and best (promises 15, 16, 20) in many villages. The due answers are by another hand than the class and
- * Model: a program in Python, written from the document alone, with fractions that are never cut.
+ * all, kinds and best (promises 15, 16, 20) in many villages. The due answers are neither from the class nor from Model,
+ * but from a program in Python, written anew after the document, with fractions that are never cut.
  */
 public final class SurveysTest {
     private static final Check CHECK = new Check("SurveysTest");
